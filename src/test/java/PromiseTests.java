@@ -252,6 +252,15 @@ public final class PromiseTests {
         rows("goes", other, is(0, 1, 3), is(1, 1, 4), is(2, 3, 3));
         due("rest", other.rest(), 1);
         rows("goes", other, is(0, 1, 2), is(1, 1, NONE), is(2, 3, NONE), is(2, 1, 5));
+        rows("goes", laid("r00;b1,0,0;b1,1,1;s1;"), is(0, 1, NONE));
+        SheepChess ninth = laid("r00;b1,0,0;b1,1,1;h9;s1;s0;s1;s0;s1;s0;s1;s0;s1;");
+        for (int day = 0; day < 8; day++) {
+            rows("goes", ninth, is(0, 1, day % 2 == 0 ? NONE : 1));
+            ninth.rest();
+        }
+        rows("goes", ninth, is(0, 1, NONE));
+        ninth.rest();
+        rows("goes", ninth, is(0, 1, NONE));
         SheepChess king = laid("r0000;r0000;r0000;b3,0,5;b0,1,3;b0,0,8;b3,1,10;");
         rows("goes", king, is(0, 0, 1), is(0, 1, 6), is(0, 2, 9), is(0, 3, 4), is(3, 3, NONE), is(3, 0, 6),
             is(3, 1, 11), is(1, 2, 11), is(1, 3, 0));
@@ -310,6 +319,11 @@ public final class PromiseTests {
         rows("square", grown, is(0, 0, 1), is(1, 0, 2), is(2, 0, 7), is(3, 0, 0), is(4, 0, 1), is(5, 0, 9));
         due("hungry no more", grown.beast(0, 3), 0);
         due("hungry first", grown.beast(1, 3), 2);
+        SheepChess high = laid("r78;r00;b1,0,2;h9;");
+        for (int day = 1; day <= 9; day++) {
+            high.rest();
+        }
+        rows("square", high, is(0, 0, 8), is(1, 0, 8), is(2, 0, 0), is(3, 0, 1));
         SheepChess lost = laid("r000;r000;b3,1,2;b1,0,1;b1,1,3;");
         due("takes the king", lost.drive(1, 1), 2);
         due("lost", lost.count(7), 2);
@@ -451,6 +465,14 @@ public final class PromiseTests {
         // the ewe comes to 2, so that the ram stops ahead of it on 1
         SheepChess help = laid("r0000;b0,0,0;b1,0,3;w1;h9;");
         rows("summer", help, is(0, -1, 3), is(0, 0, 13), is(0, 1, 1));
+        // three own days: east, south, west
+        String path = "r0000;r9990;r0000;r0999;b0,0,0;b0,1,12;w8;";
+        SheepChess long5 = laid(path + "h9;");
+        rows("summer", long5, is(0, -1, 5), is(0, 0, 1), is(0, 1, 2), is(0, 2, 3), is(0, 3, NONE), is(1, -1, 2),
+            is(1, 0, 10));
+        due("it starves on the fifth day", laid(path + "h4;").summer(0, -1), NONE);
+        long5.rest();
+        rows("summer", long5, is(0, -1, NONE), is(1, -1, 1));
         SheepChess hungry = laid("r0000;r0900;b0,0,0;b1,0,4;w3;h1;");
         rows("summer", hungry, is(0, -1, 1), is(0, 0, 1));
         SheepChess starved = laid("r0000;b0,0,3;b1,1,0;w0;h1;");
@@ -487,6 +509,11 @@ public final class PromiseTests {
         rows("game", king, is(1, 0, 98), is(2, 0, 98), is(3, 0, 98), is(3, 1, 11));
         king.drive(1, 1);
         rows("game", king, is(1, 0, NO), is(4, 0, BAD), is(1, 2, BAD));
+        SheepChess either = laid("r0;r0;b1,0,1;b1,1,0;");
+        rows("game", either, is(1, 0, 103), is(1, 1, 0));
+        SheepChess least = laid("r000;b1,0,0;b1,1,1;b1,0,2;");
+        least.rest();
+        rows("game", least, is(1, 0, 100), is(1, 1, 11));
         SheepChess still = laid("r0;b1,0,0;");
         rows("game", still, is(1, 0, 103), is(1, 1, 99), is(3, 1, 99));
         SheepChess below = laid("r000000;r000000;b3,1,0;b3,1,1;b3,1,2;b3,1,3;b3,1,4;b3,1,5;b3,1,6;b1,0,11;");
@@ -543,6 +570,9 @@ public final class PromiseTests {
         due("east", g.drive(0, 1), 2);
         // told otherwise on day 0 the ewe, on 5, can not go east then: it rests there
         rows("otherwise", g, is(0, 5, 0, 2), is(0, 5, 1, 201), is(0, 8, 0, 1), is(0, 8, 1, 202));
+        SheepChess north = laid("r000;r000;r000;b1,0,4;h9;");
+        north.drive(0, 1);
+        rows("otherwise", north, is(0, 1, 0, 1), is(0, 1, 1, 0));
         SheepChess lost = laid("r000;r000;b1,0,0;b3,1,2;b1,0,3;h9;");
         lost.drive(2, 1);
         lost.rest();
@@ -596,11 +626,17 @@ public final class PromiseTests {
         rows("season", g, is(5, 60, 0, 96), is(5, 60, 1, 4), is(-1, 1, 0, BAD), is(10000, 1, 0, BAD), is(0, 0, 0, BAD),
             is(0, 61, 0, BAD), is(0, 1, 2, BAD), is(0, 1, -1, BAD));
         due("nothing changes", g.count(3), 0);
-        // z 0: the draws of k 0 and 1 are 1 (beast 0, way 0) and 6152 x 6152 modulo 65521, 42087 (5260 and 657, way 1)
+        // z 0: the first draw is 1 (beast 0, north), the second one 6152 x 6152 modulo 65521, 41487 (of 2 beasts the second)
         SheepChess first = laid("r00;r00;b1,0,2;b1,1,0;h9;");
         rows("season", first, is(0, 1, 0, 103), is(0, 1, 1, 1), is(0, 60, 1, 0));
         SheepChess lost = laid("r00;r00;b1,0,2;b3,1,0;h1;");
         rows("season", lost, is(0, 1, 0, 103), is(0, 60, 0, 103), is(0, 60, 1, 1));
+        // an ewe amid four of the other village: whom it takes tells the draw; z 1: 7920 x 7920 modulo 65521, 22803, ..
+        SheepChess amid = laid("r000;r000;r000;b1,0,4;b0,1,1;b1,1,5;b2,1,7;b3,1,3;h9;");
+        rows("season", amid, is(1, 1, 0, 79), is(15, 1, 0, 77), is(16, 1, 0, 75), is(19, 1, 0, 77), is(49, 1, 0, 94),
+            is(56, 60, 0, 94), is(56, 60, 1, 4), is(9999, 1, 0, 74), is(9999, 1, 1, 5));
+        amid.rest();
+        rows("season", amid, is(1, 1, 0, 74), is(0, 2, 0, 79), is(57, 2, 0, 77), is(57, 1, 0, 74));
         lost.drive(0, 0);
         due("lost", lost.count(7), 2);
         rows("season", lost, is(3, 60, 0, 103), is(3, 60, 1, 1), is(9999, 60, 1, 1));
