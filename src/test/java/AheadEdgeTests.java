@@ -394,6 +394,16 @@ public final class AheadEdgeTests extends Edges {
         due(g.summer(0, -1), NONE);
     }
 
+    static void promise15_nobodyOfItStarvesWhileItRestsEither() {
+        String inSnow = "r55;r99;r90;b0,0,0;b1,1,1;w1;s0;s0;s1;s0;s0;h2;";
+        SheepChess g = laid(inSnow);
+        rest(g, 2);
+        summer(g, 0, 3, RESTING, 1);
+        SheepChess starving = laid(inSnow + "b1,0,5;");
+        rest(starving, 2);
+        due(starving.summer(0, -1), NONE);
+    }
+
     static void promise15_theOtherVillageMayStarve() {
         SheepChess g = laid("r2000;r9990;r0000;r0999;b0,0,0;b1,1,12;w8;h5;");
         rest(g, 2);
@@ -528,6 +538,15 @@ public final class AheadEdgeTests extends Edges {
         game(laid(BARE + "b1,0,4;b1,1,3;b1,1,5;"), 1, 100, 1);
         SheepChess second = laid("r0000;b1,1,3;b1,0,2;b1,0,1;");
         game(second, 1, 106, 11);
+    }
+
+    static void promise16_theEighthBeastIsDrivenWestToo() {
+        String rows = "r000999;r999900;r999900;r999900;b1,1,0;b1,1,2;b2,0,10;b2,0,11;b2,0,16;b2,0,17;";
+        game(laid(rows + "b2,0,22;b1,0,1;"), 1, 105, 71);
+        game(laid(rows + "b1,0,1;b2,0,22;"), 1, 105, 61);
+        String west = "r000999;r999900;r999900;r999900;b3,1,0;b1,1,2;b2,0,10;b2,0,11;b2,0,16;b2,0,17;";
+        game(laid(west + "b2,0,22;b1,0,1;"), 1, 105, 73);
+        game(laid(west + "b1,0,1;b2,0,22;"), 1, 105, 63);
     }
 
     static void promise16_restingIsLast() {

@@ -351,6 +351,21 @@ public final class DayEdgeTests extends Edges {
         due(other.goes(0, WEST), NONE);
     }
 
+    static void promise08_theRamMayBeBeast0AndOnSquare0() {
+        SheepChess g = laid(BARE + "b0,1,0;b3,0,4;");
+        due(g.goes(1, NORTH), NONE);
+        due(g.goes(1, EAST), 5);
+        due(g.goes(1, SOUTH), 7);
+        due(g.goes(1, WEST), NONE);
+    }
+
+    static void promise08_inARowOfOneSquareNorthAndSouthAreNextTo() {
+        SheepChess g = laid("r0;r0;r0;r0;r0;b3,0,1;b0,1,4;");
+        due(g.goes(0, SOUTH), 2);
+        due(g.goes(0, NORTH), 0);
+        due(laid("r0;r0;r0;r0;r0;b3,0,1;b0,1,3;").goes(0, SOUTH), NONE);
+    }
+
     static void promise08_aKingGoesNextToARamOfItsOwn() {
         SheepChess g = laid(BARE + "b3,1,4;b0,1,2;");
         due(g.goes(0, NORTH), 1);
@@ -403,6 +418,11 @@ public final class DayEdgeTests extends Edges {
         rest(g, 2);
         due(g.beast(1, 2), NONE);
         due(g.goes(0, EAST), 1);
+        SheepChess corner = laid("r0200;r0000;b3,0,1;b0,1,2;h1;");
+        rest(corner, 2);
+        due(corner.beast(1, 2), NONE);
+        due(corner.goes(0, WEST), 0);
+        due(corner.goes(0, EAST), 2);
     }
 
     static void promise08_whoeverHasLost() {
@@ -583,6 +603,19 @@ public final class DayEdgeTests extends Edges {
         due(g.drive(1, WEST), 1);
         due(g.count(7), 1);
         due(g.drive(1, EAST), NO);
+    }
+
+    static void promise10_whoHasWonIsDrivenNoMoreEither() {
+        SheepChess g = laid("r004;b3,1,0;b1,0,2;h1;");
+        rest(g, 2);
+        due(g.count(7), 2);
+        stays(g, () -> g.drive(1, WEST), NO);
+        due(g.rest(), NO);
+        SheepChess other = laid("r0004;b3,0,0;b1,1,3;b1,0,1;h2;");
+        rest(other, 3);
+        due(other.count(7), 1);
+        stays(other, () -> other.drive(1, WEST), NO);
+        due(other.rest(), NO);
     }
 
     static void promise10_ofTwoKingsOneMayBeTaken() {
@@ -784,6 +817,16 @@ public final class DayEdgeTests extends Edges {
             due(g.rest(), day);
             due(g.count(3), day);
         }
+    }
+
+    static void promise11_the512thCallIsAnswered() {
+        SheepChess g = new SheepChess();
+        write(g, "r0;b1,0,0;");
+        due(g.lay(), 1);
+        for (int day = 1; day <= 500; day++) {
+            due(g.rest(), day);
+        }
+        due(g.count(3), 500);
     }
 
     static void promise11_behindALostKingNobodyRests() {

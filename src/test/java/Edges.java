@@ -101,7 +101,7 @@ abstract class Edges {
         }
     }
 
-    /** All that can be seen without asking what can be; at most 117 calls. */
+    /** All that can be seen without asking what can be; at most 119 calls of the 512 that an object is used for. */
     static String all(SheepChess g) {
         StringBuilder s = new StringBuilder("counts");
         for (int what = 0; what <= 12; what++) {
@@ -112,12 +112,14 @@ abstract class Edges {
 
     /** Grass and beasts alone. */
     static String meadow(SheepChess g) {
+        int squares = g.count(0);
+        int beasts = g.count(2);
         StringBuilder s = new StringBuilder(" squares");
-        for (int x = 0; x < g.count(0); x++) {
+        for (int x = 0; x < squares; x++) {
             s.append(' ').append(g.square(x, 0)).append('/').append(g.square(x, 1));
         }
         s.append(" beasts");
-        for (int b = 0; b < g.count(2); b++) {
+        for (int b = 0; b < beasts; b++) {
             s.append(' ').append(g.beast(b, 0)).append('/').append(g.beast(b, 1));
             s.append('/').append(g.beast(b, 2)).append('/').append(g.beast(b, 3));
         }

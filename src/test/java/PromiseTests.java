@@ -39,10 +39,12 @@ public final class PromiseTests {
         for (int i = 0; i < 13; i++) {
             s.append(g.count(i)).append(' ');
         }
-        for (int x = 0; x < g.count(0); x++) {
+        int squares = g.count(0);
+        int beasts = g.count(2);
+        for (int x = 0; x < squares; x++) {
             s.append(g.square(x, 0)).append(',').append(g.square(x, 1)).append(' ');
         }
-        for (int b = 0; b < g.count(2); b++) {
+        for (int b = 0; b < beasts; b++) {
             for (int what = 0; what < 4; what++) {
                 s.append(g.beast(b, what)).append(',');
             }
@@ -365,9 +367,9 @@ public final class PromiseTests {
         promise = 12;
         SheepChess g = laid("r00000;r11111;b1,0,7;b1,1,0;b2,0,6;h9;");
         due("nothing", g.undo(), NO);
-        String[] stood = new String[12];
+        String third = "";
         for (int day = 0; day < 11; day++) {
-            stood[day] = all(g);
+            third = day == 3 ? all(g) : third;
             if (day % 2 == 0) {
                 due("drive", g.drive(0, day % 4 == 0 ? 1 : 3) >= 0 ? 1 : 0, 1);
             } else {
@@ -381,7 +383,7 @@ public final class PromiseTests {
         }
         due("no more", g.undo(), NO);
         due("as on day 3 but for what can be undone", all(g).replace(" 0 0 0 ", " ").equals(
-            stood[3].replace(" 3 0 0 ", " ")) ? 1 : 0, 1);
+            third.replace(" 3 0 0 ", " ")) ? 1 : 0, 1);
         due("anew", g.rest(), 4);
         due("one", g.undo(), 0);
         SheepChess king = laid("r00;b3,1,1;b1,0,0;");

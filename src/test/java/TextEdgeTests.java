@@ -171,7 +171,7 @@ public final class TextEdgeTests extends Edges {
     }
 
     static void promise02_badChangesNothing() {
-        SheepChess g = new SheepChess();
+        SheepChess g = laid("r12;b1,0,0;");
         write(g, "r0;");
         stays(g, () -> g.write(31), BAD);
         stays(g, () -> g.write(127), BAD);

@@ -61,6 +61,30 @@ public final class ToldEdgeTests extends Edges {
         told(g, 0, 4, 1, 99);
     }
 
+    static void promise19_theEighthBeastWestToo() {
+        String rows = BARE + "b1,1,0;b1,1,1;b1,1,2;b1,1,6;b1,1,7;b1,1,8;";
+        SheepChess eighth = laid(rows + "b1,0,5;b1,0,4;h9;");
+        eighth.rest();
+        told(eighth, 7, 3, 1, 73);
+        told(eighth, 6, 2, 1, 60);
+        SheepChess seventh = laid(rows + "b1,0,4;b1,0,5;h9;");
+        seventh.rest();
+        told(seventh, 6, 3, 1, 63);
+        due(seventh.undo(), 0);
+        due(seventh.drive(6, WEST), 3);
+        told(seventh, 6, 1, 1, 60);
+        told(seventh, 6, 4, 1, 99);
+        due(seventh.rest(), 2);
+        due(seventh.drive(6, EAST), 4);
+        told(seventh, 6, 3, 1, 99);
+        told(seventh, 6, 4, 5, 112);
+        SheepChess driven = laid(rows + "b1,0,4;b1,0,5;h9;");
+        due(driven.drive(6, SOUTH), 7);
+        told(driven, 6, 3, 1, 63);
+        told(driven, 6, 1, 1, 60);
+        told(driven, 6, 4, 1, 99);
+    }
+
     static void promise19_notTheSameWay() {
         for (int way = 0; way < 4; way++) {
             SheepChess g = laid(BARE + "b1,0,4;h9;");
@@ -353,6 +377,9 @@ public final class ToldEdgeTests extends Edges {
         SheepChess g = laid("r090;b1,0,2;b1,1,0;h9;");
         chance(g, 0, 1, 5, 1, 2);
         chance(g, 1, 1, 5, 1, 1);
+        chance(g, 1, 1, 1, 1, 1);
+        chance(g, 1, 2, 1, 99, 100);
+        chance(g, 1, 2, 9, 19, 100);
         chance(g, 1, 2, 5, 3, 4);
         chance(g, 1, 3, 5, 1, 2);
     }
@@ -449,6 +476,12 @@ public final class ToldEdgeTests extends Edges {
 
     static void promise21_theHighestZDraws51303() {
         season(laid(BARE + "b0,1,1;b2,1,7;b1,0,4;b1,1,5;b3,1,3;h9;"), 9999, 1, 77, 4);
+    }
+
+    static void promise21_theEighthBeastWestToo() {
+        String rows = BARE + "b0,1,1;b1,1,5;b2,1,7;b3,1,3;b2,1,6;b2,1,8;";
+        season(laid(rows + "b2,1,0;b1,0,4;"), 23, 1, 91, 7);
+        season(laid(rows + "b1,0,4;b2,1,0;"), 43, 1, 91, 7);
     }
 
     static void promise21_theVillageWhoseDayItIsNotRests() {
