@@ -253,6 +253,13 @@ public final class AheadEdgeTests extends Edges {
         due(g.stray(0, 6), 3);
     }
 
+    static void promise14_whatIsFarOffDoesNotCount() {
+        SheepChess g = laid("r000000;r999990;r000000;r099999;r000000;b1,0,0;");
+        due(g.stray(0, 0), 1);
+        due(g.stray(0, 5), 6);
+        due(g.stray(0, 6), 7);
+    }
+
     static void promise14_nobodyIsTaken() {
         SheepChess g = laid(BARE + "b1,0,4;b1,1,1;b1,0,7;");
         due(g.stray(0, 1), 3);

@@ -679,6 +679,20 @@ public final class TextEdgeTests extends Edges {
         due(g.drive(0, EAST), 1);
     }
 
+    static void promise05_nobodyOfTheOldMeadowIsLeft() {
+        SheepChess g = laid("r888888;".repeat(6) + "b1,0,35;");
+        due(g.count(4), 1);
+        due(g.count(5), 0);
+        due(g.beast(1, 2), BAD);
+        rest(g, 2);
+        due(g.count(8), 36 * 8 - 2);
+        due(g.square(35, 0), 6);
+        due(g.drive(0, WEST), 34);
+        for (int x = 0; x < 34; x++) {
+            due(g.square(x, 1), NONE);
+        }
+    }
+
     static void promise05_aVillageMayBeWithoutBeasts() {
         SheepChess g = laid("r00;b1,1,0;");
         due(g.count(4), 0);

@@ -382,6 +382,10 @@ public final class ToldEdgeTests extends Edges {
         chance(g, 1, 2, 9, 19, 100);
         chance(g, 1, 2, 5, 3, 4);
         chance(g, 1, 3, 5, 1, 2);
+        chance(g, 1, 8, 5, 9, 256);
+        chance(g, 1, 8, 1, 81310473, 100000000);
+        chance(g, 1, 8, 3, 25529833, 100000000);
+        chance(g, 1, 7, 5, 1, 16);
     }
 
     static void promise20_whoIsNotByABogIsNotTaken() {
