@@ -12,13 +12,21 @@ import java.util.TreeSet;
 import java.util.regex.Matcher;
 import java.util.regex.Pattern;
 
-/** The face of the class, and those rules of LANGUAGE.md that its source shows. The argument: the source's path. */
+/**
+ * The face of the class, those rules of LANGUAGE.md that its source shows, and what README.md says of it. The arguments: the
+ * paths of the source and of README.md.
+ */
 public final class RulesTests {
     private static int passed = 0, failed = 0;
     private static final String FACE = "again(int) back() beast(int,int) count(int) drive(int,int) fault() "
         + "fewest(int,int,int) game(int,int) goes(int,int) keep() lay() otherwise(int,int,int) rest() season(int,int,int) "
         + "square(int,int) starves(int) stray(int,int) summer(int,int) takes(int,int) undo() wipe() "
         + "wolves(int,int,int,int) write(int)";
+
+    /** The parts of the interface, each with its calls, as the document has them. */
+    private static final String PARTS = "---- meadows: write wipe fault lay square beast goes takes ---- days: drive rest undo "
+        + "---- what can be: fewest stray summer game again starves ---- what was told: otherwise "
+        + "---- wolves, seasons: wolves season keep back count";
 
     private static void due(String what, Object got, Object want) {
         if (want.equals(got)) {
@@ -33,6 +41,9 @@ public final class RulesTests {
         face();
         wildArguments();
         source(Files.readString(Path.of(args[0])));
+        parts(Files.readString(Path.of(args[0])));
+        readme(Files.readString(Path.of(args[1])));
+        exampleOfReadme();
         System.out.println(passed + " passed, " + failed + " failed");
         if (failed != 0) {
             System.exit(1);
@@ -116,6 +127,41 @@ public final class RulesTests {
         due("classes at most 12", bare.split("\\bclass\\b").length - 1 <= 12, true);
         due("static fields are final", Pattern.compile("static (?!final)\\w+(\\[\\])? \\w+( =|;)").matcher(bare).find(), false);
         due("methods too long", longMethods(text), Collections.emptyList());
+    }
+
+    private static void parts(String text) {
+        StringBuilder told = new StringBuilder();
+        Matcher m = Pattern.compile("\n    (?:// (---- [a-z, ]+)|public int (\\w+)\\()").matcher(text);
+        while (m.find()) {
+            told.append(told.length() == 0 ? "" : " ").append(m.group(1) == null ? m.group(2) : m.group(1) + ":");
+        }
+        due("parts of the interface", told.toString(), PARTS);
+    }
+
+    /** README.md has a row for each call, with as many arguments, and one for each answer below 0. */
+    private static void readme(String text) {
+        for (String call : FACE.split(" ")) {
+            int at = call.indexOf('(');
+            String args = call.substring(at + 1, call.length() - 1).replace("int", "\\w+").replace(",", ", ");
+            String row = "(?m)^\\| `" + call.substring(0, at) + "\\(" + args + "\\)` \\|";
+            due("README.md has a row for " + call, Pattern.compile(row).matcher(text).results().count(), 1L);
+        }
+        for (String answer : new String[] {"BAD -1", "NO -2", "FULL -3", "NONE -4"}) {
+            String row = "(?m)^\\| `" + answer.replace(" ", "`\\s+\\| ") + " \\|";
+            due("README.md has a row for " + answer, Pattern.compile(row).matcher(text).results().count(), 1L);
+        }
+        due("README.md says how to run the tests", text.contains("bash .ci/run"), true);
+    }
+
+    private static void exampleOfReadme() {
+        SheepChess game = new SheepChess();
+        int length = 0;
+        for (char letter : "r000;r020;b0,0,0;b3,1,5;w4;h5;s0;s1;".toCharArray()) {
+            length = game.write(letter);
+        }
+        int[] told = {length, game.fault(), game.lay(), game.goes(0, 1), game.drive(0, 1), game.undo(), game.summer(0, -1),
+            game.summer(0, 0)};
+        due("README.md's example", Arrays.toString(told), "[36, -4, 2, 2, 2, 0, 3, 2]");
     }
 
     private static List<String> longMethods(String text) {
